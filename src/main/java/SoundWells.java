@@ -242,7 +242,7 @@ public final class SoundWells {
 
         static int squareBits(int n) {
             int bits = 0;
-            for (int x = 1; x < n; x++) bits |= 1 << x * x % n;
+            for (int x = 1; x < n; x++) bits |= 1 << (x * x % n);
             return bits;
         }
 

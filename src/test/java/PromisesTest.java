@@ -131,6 +131,11 @@ public final class PromisesTest {
         dueFault("u", 0);
         dueFault("u0003;", 0);
         dueFault("u-3;", 0);
+        dueFault("u:;", 0);
+        dueFault("u1:;", 0);
+        dueFault("u1/;", 0);
+        dueFault("b2:,1;", 0);
+        dueFault("q7,1,0,:;", 0);
         dueFault("u+3;", 0);
         dueFault("u3,;", 0);
         dueFault("u3,1;", 0);
@@ -149,6 +154,8 @@ public final class PromisesTest {
         dueFault("u3;q7,1,0,1;q7,1,0,1;u2;q7,1,0,1;q7,1,0,1;u4;b50,1;", NONE);
         dueFault("u3;q7,1,0,1;q7,1,0,1;u2;q7,1,0,1;r7,3,0,1;u4;l7,1,0,1;b50,1;", 45);
         dueFault("q7,1,0,1;u0;x", 9);
+        dueFault("u1;".repeat(66) + "u1", 198);
+        dueFault("u1;".repeat(60) + "u02;".repeat(5), NONE);
     }
 
     private static void faultsOfRanges() {
@@ -395,6 +402,7 @@ public final class PromisesTest {
         due("14 one well of 0", x.panel(0, 6), 0);
         due("14 one well of 0 is mirrored", x.panel(0, 9), 1);
         due("14 one unlike", x.panel(0, 8), 1);
+        due("14 the first is the deepest", laid("r5,2,1,4;").panel(0, 6), 4);
         due("14 not mirrored from 0", x.panel(1, 9), 0);
         x.set(1, 1, 4);
         // 2 4 1 0 1 4 2
@@ -479,6 +487,7 @@ public final class PromisesTest {
         dueCut("just not lost", x, 2, 2, 0, 2, 0);
         dueCut("no blocks", laid("q3,1,0,1;"), 0, 0, 0, 0, 0);
         dueCut("no panels", laid(""), 0, 0, 0, 0, 0);
+        dueCut("need is rounded up", laid("q7,3,1,1;q7,6,1,1;q7,6,1,1;q7,6,1,1;u1;b20,0;"), 2, 4, 0, 2, 19);
         // 3 blocks of 6 need 2 cuts: 18 and 2 by 1
         dueCut("a cut between each two", laid("q7,6,1,1;q7,6,1,1;q7,6,1,1;u1;b20,1;"), 1, 3, 0, 1, 2);
         dueCut("too long by one", laid("q7,6,1,1;q7,6,1,1;q7,6,1,1;u1;b20,2;"), 2, 3, 0, 1, 22);
@@ -523,10 +532,18 @@ public final class PromisesTest {
         for (int i = 0; i < first.length; i++) due("21 where 0 " + i, x.where(0, i), first[i]);
         for (int i = 0; i < second.length; i++) due("21 where 1 " + i, x.where(1, i), second[i]);
         x.tell(0, 10);
+        due("21 the last short one", x.where(1, 5), 3);
         due("21 lost", x.where(0, 2), NONE);
         due("21 not lost", x.where(0, 3), 0);
         due("21 behind lost ones", x.where(1, 2), 2);
         due("21 shorter beside longer", x.where(0, 1), 0);
+        // 2 4 3 1 by 10 of 40: the second is as long as a board, the third comes next with the fourth, then the first
+        SoundWells y = laid("r5,2,0,4;u10;b40,0;");
+        int[] third = {2, 0, 1, 1};
+        for (int i = 0; i < third.length; i++) due("21 just not lost, where " + i, y.where(0, i), third[i]);
+        SoundWells z = laid("r5,2,1,4;u10;b40,0;");
+        int[] fourth = {0, 1, 1, 2};
+        for (int i = 0; i < fourth.length; i++) due("21 the first well, where " + i, z.where(0, i), fourth[i]);
         int[][] bad = {{-1, 0}, {2, 0}, {0, -1}, {0, 7}, {1, 6}, {MIN, 0}, {MAX, 0}, {0, MIN}, {0, MAX}};
         for (int[] c : bad) due("21 where " + c[0] + " " + c[1], x.where(c[0], c[1]), BAD);
     }
