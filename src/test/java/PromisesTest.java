@@ -544,6 +544,8 @@ public final class PromisesTest {
         SoundWells z = laid("r5,2,1,4;u10;b40,0;");
         int[] fourth = {0, 1, 1, 2};
         for (int i = 0; i < fourth.length; i++) due("21 the first well, where " + i, z.where(0, i), fourth[i]);
+        z.set(0, 2, 3);
+        due("21 a well that is no more does not count", z.where(0, 2), 1);
         int[][] bad = {{-1, 0}, {2, 0}, {0, -1}, {0, 7}, {1, 6}, {MIN, 0}, {MAX, 0}, {0, MIN}, {0, MAX}};
         for (int[] c : bad) due("21 where " + c[0] + " " + c[1], x.where(c[0], c[1]), BAD);
     }
