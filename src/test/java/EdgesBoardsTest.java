@@ -274,6 +274,11 @@ public final class EdgesBoardsTest {
             dueBest("l3,1,0,1;", 0, 0, 0);
             dueBest("l3,1,1,1;", 0, 0, 0);
             dueBest("l7,9,2,3;", 0, 5, 0);
+            // a BOARD of before is nobody's last one
+            SoundWells x = Edges.laid("l3,1,1,1;u20;b100,0;");
+            Edges.due("boards", x.cut(0), 1);
+            x.tell(0, 1);
+            Edges.due("best(0, 0)", x.best(0, 0), 0);
         });
         Edges.edge("22: of several the lowest", () -> {
             dueBest("r3,2,1,2;", 0, 0, 1);
@@ -293,6 +298,8 @@ public final class EdgesBoardsTest {
         Edges.edge("22: all else as it is", () -> {
             // with one of 30 of 40: 40 | 30 | 20, 40 | 30 | 30, 30 10 | 30, 30 10 | 20
             dueBest("q5,3,1,1;r5,2,0,2;u10;b40,0;", 1, 3, 2);
+            // with one of 20: 20 20, 20 10; if the other went along, it would have none by OFFSET 0
+            dueBest("q3,2,1,1;r3,2,0,1;u10;", 1, 1, 1);
         });
         Edges.edge("22: whatever the OFFSET is now", () -> {
             for (int o = 0; o < 5; o++) dueBest("r5,2," + o + ",3;u10;b50,0;", 0, 2, 2);

@@ -114,6 +114,10 @@ public final class EdgesPanelsTest {
             Edges.due("from 0", x.panel(0, 9), 0);
             x.set(0, 2, 8);
             Edges.due("0 1 4 2 2 4 1 0", x.panel(0, 9), 1);
+            x.set(0, 1, 4);
+            Edges.due("2 4 1 0 1 4 2 2", x.panel(0, 9), 0);
+            x.set(0, 2, 7);
+            Edges.due("2 4 1 0 1 4 2", x.panel(0, 9), 1);
         });
     }
 
@@ -339,12 +343,14 @@ public final class EdgesPanelsTest {
             Edges.due("2 and 1 by 3", Edges.laid("r3,2,0,1;").plane(0, 0, 1), 0);
         });
         Edges.edge("17: OFFSET does not matter", () -> {
-            SoundWells from0 = three(2, 0, 1), from6 = three(2, 6, 40);
-            for (int p = 0; p < 3; p++) {
-                for (int i = 0; i < 49; i++) Edges.due("of " + p, from6.plane(p, i / 7, i % 7), from0.plane(p, i / 7, i % 7));
+            for (int o = 0; o < 7; o++) {
+                SoundWells from0 = three(2, 0, 1), x = three(2, o, 40);
+                for (int p = 0; p < 3; p++) {
+                    for (int i = 0; i < 49; i++) Edges.due("of " + p + " from " + o, x.plane(p, i / 7, i % 7), from0.plane(p, i / 7, i % 7));
+                }
+                Edges.due("(0, 0) of POWERS", x.plane(1, 0, 0), 6);
+                Edges.due("(0, 1) of SQUARES", x.plane(0, 0, 1), 1);
             }
-            Edges.due("(0, 0) of POWERS", from6.plane(1, 0, 0), 6);
-            Edges.due("(0, 1) of SQUARES", from6.plane(0, 0, 1), 1);
         });
         Edges.edge("17: BAD, a PANEL such as there are", () -> {
             SoundWells x = new SoundWells();
@@ -384,9 +390,11 @@ public final class EdgesPanelsTest {
             }
         });
         Edges.edge("18: OFFSET does not matter", () -> {
-            SoundWells from0 = three(2, 0, 1), from6 = three(2, 6, 40);
-            for (int p = 0; p < 3; p++) {
-                for (int depth = 0; depth < 7; depth++) Edges.due("of " + p, from6.planes(p, depth), from0.planes(p, depth));
+            for (int o = 1; o < 7; o++) {
+                SoundWells from0 = three(2, 0, 1), x = three(2, o, 40);
+                for (int p = 0; p < 3; p++) {
+                    for (int depth = 0; depth < 7; depth++) Edges.due("of " + p + " from " + o, x.planes(p, depth), from0.planes(p, depth));
+                }
             }
         });
         Edges.edge("18: BAD, a PANEL such as there are", () -> {
