@@ -249,6 +249,24 @@ public final class EdgesToldTest {
                 Edges.dueFault(letter + "20,2;", letter == 'b' ? NONE : 0);
             }
         });
+        Edges.edge("4: an ITEM that is not so stays so behind others; their numbers do not fill up its own", () -> {
+            String before = "b20,2;l5,2,0,1;";
+            for (char letter = 32; letter <= 126; letter++) {
+                boolean panel = letter == 'q' || letter == 'r' || letter == 'l';
+                for (String rest : new String[] {";", "5,2;", "5,2,0;", "5,2,0,1,1;"}) Edges.dueFault(before + letter + rest, 15);
+                Edges.dueFault(before + letter + "5;", letter == 'u' ? NONE : 15);
+                Edges.dueFault(before + letter + "20,2;", letter == 'b' ? NONE : 15);
+                Edges.dueFault(before + letter + "5,2,0,1;", panel ? NONE : 15);
+            }
+        });
+        Edges.edge("4: an ITEM that is not so stays so behind a TEXT that was read before it", () -> {
+            SoundWells x = Edges.laid("l5,2,0,1;");
+            for (String text : new String[] {"x5;", "q5;", "l5,2;", "r5,2,0;", "b20;", "l;"}) {
+                Edges.rewrite(x, text);
+                Edges.due("fault of " + text, x.fault(), 0);
+                Edges.due("lay of " + text, x.lay(), NO);
+            }
+        });
     }
 
     private static void faultNumbers() {
